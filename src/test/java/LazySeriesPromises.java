@@ -550,6 +550,7 @@ public final class LazySeriesPromises {
         due2("a derivative and itself", x, 4, 4, 15);
         due2("exp and what has no values", x, 0, 5, 0);
         due2("no values on both sides", x, 5, 5, 0);
+        due2("x, which begins with 0, and no values", x, 1, 5, 0);
         due2("exp and 1 and then no values", x, 0, 6, 1);
         due2("exp + x and the powers of 2", x, 7, 2, 2);
         for (int bad : BAD_SERIES) {
@@ -728,6 +729,11 @@ public final class LazySeriesPromises {
         }
         check.due("the greatest places", x.needs(127, 127), 0);
         check.due("the least places", x.needs(0, 0), 0);
+        x.define(0, LazySeries.SUM, 7, 0);
+        check.due("the least place needs itself", x.needs(0, 0), 1);
+        x.define(7, LazySeries.SCALE, 0, 1);
+        check.due("the greatest place needs itself", x.needs(127, 127), 1);
+        check.due("the greatest place and the least", x.needs(127, 0) + x.needs(0, 127), 0);
     }
 
     // "No question changes anything."
