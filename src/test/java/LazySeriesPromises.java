@@ -1,10 +1,7 @@
 import java.math.BigInteger;
 
 /** Worked examples, edges and wrong inputs for each promise, in the document's order. */
-public final class LazySeriesPromises {
-    private static final int MIN = Integer.MIN_VALUE;
-    private static final int MAX = Integer.MAX_VALUE;
-    private static final int[] BAD_SERIES = {-1, 8, 9, 16, 97, -8, MIN, MAX};
+public final class LazySeriesPromises extends Examples {
     private static final int[] NUMBERS = {0, 1, 2, 96, 97, 98, 194, -1, -96, -97, -98, 12345, -12345, MIN, MAX};
 
     private static final Check check = new Check();
@@ -36,75 +33,6 @@ public final class LazySeriesPromises {
         needsRefuses();
         questionsChangeNothing();
         check.finish();
-    }
-
-    // What the tests are made of.
-
-    private static int mod(long number) {
-        return (int) Math.floorMod(number, 97L);
-    }
-
-    private static int divided(long number, long by) {
-        BigInteger modulus = BigInteger.valueOf(97);
-        BigInteger inverse = BigInteger.valueOf(by).modInverse(modulus);
-        return BigInteger.valueOf(number).multiply(inverse).mod(modulus).intValue();
-    }
-
-    private static int[] coefficients(LazySeries x, int s) {
-        int[] all = new int[16];
-        for (int n = 0; n < 16; n++) {
-            all[n] = x.coefficient(s, n);
-        }
-        return all;
-    }
-
-    private static int[] filled(int with) {
-        int[] all = new int[16];
-        java.util.Arrays.fill(all, with);
-        return all;
-    }
-
-    /** Kinds and coefficients of all series: 136 calls. */
-    private static int[] state(LazySeries x) {
-        int[] all = new int[136];
-        for (int s = 0; s < 8; s++) {
-            all[128 + s] = x.kindOf(s);
-            System.arraycopy(coefficients(x, s), 0, all, 16 * s, 16);
-        }
-        return all;
-    }
-
-    /** Series s becomes 1 + ratio x + ratio^2 x^2 + .. ; it takes series helper too. */
-    private static void geometric(LazySeries x, int s, int helper, int ratio) {
-        x.define(helper, LazySeries.SCALE, s, ratio);
-        x.define(s, LazySeries.SHIFT, helper, 1);
-    }
-
-    private static int[] powersOf(int ratio) {
-        int[] all = new int[16];
-        all[0] = 1;
-        for (int n = 1; n < 16; n++) {
-            all[n] = mod((long) all[n - 1] * ratio);
-        }
-        return all;
-    }
-
-    /** exp in series 0, x in 1, the geometric series of 2 in 2 (helper 3); the rest is as at first. */
-    private static LazySeries withSomeSeries() {
-        LazySeries x = new LazySeries();
-        x.define(0, LazySeries.INTEGRAL, 0, 1);
-        x.define(1, LazySeries.VARIABLE, 0, 0);
-        geometric(x, 2, 3, 2);
-        return x;
-    }
-
-    private static int[] exponential() {
-        int[] all = new int[16];
-        all[0] = 1;
-        for (int n = 1; n < 16; n++) {
-            all[n] = divided(all[n - 1], n);
-        }
-        return all;
     }
 
     // Promise 1.
@@ -147,8 +75,8 @@ public final class LazySeriesPromises {
         for (int bad : BAD_SERIES) {
             LazySeries x = new LazySeries();
             for (int kind = 0; kind <= 9; kind++) {
-                boolean takesA = kind >= LazySeries.SUM;
-                boolean takesB = kind == LazySeries.SUM || kind == LazySeries.PRODUCT || kind == LazySeries.COMPOSE;
+                boolean takesA = takesSeriesA(kind);
+                boolean takesB = takesSeriesB(kind);
                 String call = " of kind " + kind + " with " + bad;
                 check.due("define s" + call, x.define(bad, kind, 0, 0), -1);
                 check.due("define a" + call, Math.min(0, x.define(0, kind, bad, 0)), takesA ? -3 : 0);
@@ -653,7 +581,7 @@ public final class LazySeriesPromises {
 
     private static void needsDirectly() {
         for (int kind = 0; kind <= 9; kind++) {
-            boolean takesB = kind == LazySeries.SUM || kind == LazySeries.PRODUCT || kind == LazySeries.COMPOSE;
+            boolean takesB = takesSeriesB(kind);
             for (int n = 0; n < 16; n++) {
                 LazySeries x = new LazySeries();
                 x.define(3, kind, 5, 6);

@@ -4,15 +4,20 @@ final class Check {
 
     private int asked = 0;
     private int wrong = 0;
+    private int askedBeforeSentence = 0;
+    private String sentence = "";
+
+    /** What follows, up to the next sentence, tests this sentence of the document. */
+    void sentence(String words) {
+        endSentence();
+        sentence = words;
+        askedBeforeSentence = asked;
+    }
 
     void due(String call, long got, long want) {
         asked++;
-        if (got == want) {
-            return;
-        }
-        wrong++;
-        if (wrong <= PRINTED_AT_MOST) {
-            System.out.println(call + " answered " + got + ", due is " + want);
+        if (got != want) {
+            wrong(call + " answered " + got + ", due is " + want);
         }
     }
 
@@ -28,13 +33,26 @@ final class Check {
     }
 
     void finish() {
+        endSentence();
         if (asked == 0) {
-            System.out.println("nothing was asked");
-            System.exit(1);
+            wrong("nothing was asked");
         }
         System.out.println(wrong == 0 ? "all " + asked + " answers are as due" : wrong + " of " + asked + " answers are not as due");
         if (wrong != 0) {
             System.exit(1);
+        }
+    }
+
+    private void endSentence() {
+        if (!sentence.isEmpty() && asked == askedBeforeSentence) {
+            wrong("nothing was asked");
+        }
+    }
+
+    private void wrong(String what) {
+        wrong++;
+        if (wrong <= PRINTED_AT_MOST) {
+            System.out.println(sentence.isEmpty() ? what : "\"" + sentence + "\": " + what);
         }
     }
 }
