@@ -255,10 +255,10 @@ public final class LazySeries {
         }
     }
 
-    /** Answers how many places are reached now; a place is reached once, so these are never more than there are. */
+    /** Answers how many places are reached now; once all are, there is none left to look for. */
     private int reachDirectNeedsOf(int place, int countBefore) {
         int count = countBefore;
-        for (int other = 0; other < PLACES; other++) {
+        for (int other = 0; other < PLACES && count < PLACES; other++) {
             if (!reached[other] && needsDirectly(place, other)) {
                 reached[other] = true;
                 reachedInTurn[count] = other;
@@ -330,7 +330,7 @@ public final class LazySeries {
             case SCALE:
                 return number * values[first + n] % MODULUS;
             case DERIVATIVE:
-                return (n + 1) * values[first + n + 1] % MODULUS;
+                return n + 1 < LENGTH ? (n + 1) * values[first + n + 1] % MODULUS : 0;
             case INTEGRAL:
                 return n == 0 ? number : values[first + n - 1] * inverse(n) % MODULUS;
             case RECIPROCAL:

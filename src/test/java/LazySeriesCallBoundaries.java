@@ -455,6 +455,14 @@ public final class LazySeriesCallBoundaries extends Examples {
             check.due("over all 128 places, the last of them " + place, x.needs(15, place), place == 15 ? 0 : 1);
             check.due("from the first of them " + place, x.needs(16 * 7, place), 0);
         }
+        LazySeries ring = new LazySeries();
+        for (int s = 0; s < 8; s++) {
+            ring.define(s, LazySeries.PRODUCT, (s + 1) % 8, s);
+        }
+        for (int place = 0; place < 128; place++) {
+            check.due("the end needs all 128 places, itself too " + place, ring.needs(127, place), 1);
+            check.due("the start needs the starts alone " + place, ring.needs(0, place), place % 16 == 0 ? 1 : 0);
+        }
         check.sentence("needs: (whether or not they have values)");
         x = new LazySeries();
         withoutValues(x, 7);
