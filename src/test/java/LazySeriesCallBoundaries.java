@@ -225,7 +225,10 @@ public final class LazySeriesCallBoundaries extends Examples {
         int ask(LazySeries x, int s);
     }
 
-    /** By the rules values stand in front and what lacks them behind, so known and valued go together. */
+    /**
+     * By the rules values stand in front and what lacks them behind, so known and valued go together. Each part moves
+     * the end of the values by one at most, so an end at 8 would need nine series from it to 0 or 16: no series has it.
+     */
     private static void howManyHaveValues(OfSeries question) {
         LazySeries x = new LazySeries();
         withoutValues(x, 0);
